@@ -20,12 +20,10 @@ public final class IdeaMousers {
     private static final int TAPE_BYTES = 600;
     private static final int SHORT_TEXT = 150;
     private static final int BOOK_TEXT = 60;
-    private static final int BYTES_OF_A_FEED = 20;
-
+    
     private static final int WRONG = 1;
     private static final int NO_SUCH_NUMBER = 2;
     private static final int TOO_MANY = 3;
-    private static final int BELOW_FAULTS = 10;
     private static final int TOO_MANY_WORKS = -20;
 
     private static final int LAST_NIGHT = 900;
@@ -36,9 +34,7 @@ public final class IdeaMousers {
     private static final int MOST_PLANKS = 12;
     private static final int MOST_STAKE = 99;
 
-    private final int[] tape = new int[TAPE_BYTES];
-    private int onTape;
-    private final Text text = new Text(tape);
+    private final Tape tape = new Tape();
     private final House plan = new House();
     private final House draft = new House();
     private final Law rule = new Law();
@@ -61,22 +57,22 @@ public final class IdeaMousers {
     // ---- texts ----
 
     public int feed(int a, int b, int c, int d, int e) {
-        if (onTape + BYTES_OF_A_FEED > TAPE_BYTES) {
+        if (!tape.hasRoomForFive()) {
             return NONE;
         }
-        putOnTape(a);
-        putOnTape(b);
-        putOnTape(c);
-        putOnTape(d);
-        putOnTape(e);
-        return onTape;
+        tape.put(a);
+        tape.put(b);
+        tape.put(c);
+        tape.put(d);
+        tape.put(e);
+        return tape.bytesOnIt();
     }
 
     public int house(int n) throws IllegalArgumentException {
         openText(n, TAPE_BYTES);
-        draft.read(text);
-        if (text.failed()) {
-            return text.faultKind() - BELOW_FAULTS;
+        draft.read(tape);
+        if (tape.failed()) {
+            return tape.faultAnswer();
         }
         plan.copyFrom(draft);
         rule.forget();
@@ -89,19 +85,18 @@ public final class IdeaMousers {
 
     public int law(int n) throws IllegalArgumentException {
         openText(n, SHORT_TEXT);
-        rule.read(text);
-        return text.failed() ? text.faultKind() - BELOW_FAULTS : 1;
+        rule.read(tape);
+        return tape.failed() ? tape.faultAnswer() : 1;
     }
 
     public int work(int n) throws IllegalArgumentException {
         openText(n, SHORT_TEXT);
         if (past.isFull()) {
-            text.begin(0);
             return TOO_MANY_WORKS;
         }
-        steps.read(text, plan);
-        if (text.failed()) {
-            return text.faultKind() - BELOW_FAULTS;
+        steps.read(tape, plan);
+        if (tape.failed()) {
+            return tape.faultAnswer();
         }
         past.keepWork(now);
         steps.begin();
@@ -112,12 +107,12 @@ public final class IdeaMousers {
 
     public int book(int n) throws IllegalArgumentException {
         openText(n, BOOK_TEXT);
-        lines.read(text, plan.cats);
-        return text.failed() ? text.faultKind() - BELOW_FAULTS : lines.many();
+        lines.read(tape, plan.cats);
+        return tape.failed() ? tape.faultAnswer() : lines.many();
     }
 
     public int fault() {
-        return text.faultPlace();
+        return tape.faultPlace();
     }
 
     public int undo() {
@@ -501,7 +496,7 @@ public final class IdeaMousers {
     public int count(int what) {
         switch (what) {
             case 0: return past.images;
-            case 1: return onTape;
+            case 1: return tape.bytesOnIt();
             case 2: return past.works;
             default: return NONE;
         }
@@ -523,20 +518,9 @@ public final class IdeaMousers {
         }
     }
 
-    private void putOnTape(int number) {
-        for (int shift = 24; shift >= 0; shift -= 8) {
-            if (onTape < tape.length) {
-                tape[onTape] = number >> shift & 255;
-                onTape++;
-            }
-        }
-    }
-
-    /** The bytes stay in the row of the TAPE until the next feed, so the text is read from there. */
     private void openText(int n, int most) {
-        demandWithin(n, 0, Math.min(onTape, most));
-        onTape = 0;
-        text.begin(n);
+        demandWithin(n, 0, Math.min(tape.bytesOnIt(), most));
+        tape.open(n);
     }
 
     private void tryNights(int nights) {
@@ -587,27 +571,44 @@ public final class IdeaMousers {
     }
 
     /**
-     * Reads one text from the left; behind its first FAULT nothing more is taken. Blanks are passed
-     * as soon as something was taken, so the place it stands at is always that of what comes next.
+     * The TAPE, and the reading of a text on it from the left. Behind the first FAULT nothing more is
+     * taken. Blanks are passed as soon as something was taken, so the place it stands at is always
+     * that of what comes next.
      */
-    private static final class Text {
+    private static final class Tape {
+        private static final int BYTES_OF_A_FEED = 20;
+        private static final int BELOW_FAULTS = 10;
         private static final int BLANK = 32;
         /** Above every number that a text may hold, so that long rows of digits do not wrap. */
         private static final int TOO_GREAT = 100000;
 
-        private final int[] bytes;
+        private final int[] bytes = new int[TAPE_BYTES];
+        private int fed;
         private int length;
         private int at;
         private int kind;
         private int place = NONE;
         private int numberPlace;
 
-        Text(int[] bytes) {
-            this.bytes = bytes;
+        int bytesOnIt() {
+            return fed;
         }
 
-        void begin(int many) {
-            length = Math.min(many, bytes.length);
+        boolean hasRoomForFive() {
+            return fed + BYTES_OF_A_FEED <= TAPE_BYTES;
+        }
+
+        void put(int number) {
+            for (int shift = 24; shift >= 0 && fed < TAPE_BYTES; shift -= 8) {
+                bytes[fed] = number >> shift & 255;
+                fed++;
+            }
+        }
+
+        /** The bytes stay in their row until the next feed, so the text is read from there. */
+        void open(int many) {
+            length = Math.min(many, fed);
+            fed = 0;
             kind = 0;
             place = NONE;
             moveTo(0);
@@ -617,8 +618,8 @@ public final class IdeaMousers {
             return kind != 0;
         }
 
-        int faultKind() {
-            return kind;
+        int faultAnswer() {
+            return kind - BELOW_FAULTS;
         }
 
         int faultPlace() {
@@ -749,7 +750,7 @@ public final class IdeaMousers {
             System.arraycopy(other.noses, 0, noses, 0, MOST_CATS);
         }
 
-        void read(Text text) {
+        void read(Tape text) {
             rooms = 0;
             ways = 0;
             schemes = 0;
@@ -762,7 +763,7 @@ public final class IdeaMousers {
             }
         }
 
-        private void readClause(Text text) {
+        private void readClause(Tape text) {
             int start = text.next();
             if (text.takesWord("room")) {
                 readRoom(text, start);
@@ -778,7 +779,7 @@ public final class IdeaMousers {
             text.expect(';');
         }
 
-        private void readRoom(Text text, int start) {
+        private void readRoom(Tape text, int start) {
             if (rooms >= MOST_ROOMS) {
                 text.fail(TOO_MANY, start);
                 return;
@@ -787,7 +788,7 @@ public final class IdeaMousers {
             rooms++;
         }
 
-        private void readWay(Text text, int start) {
+        private void readWay(Tape text, int start) {
             if (ways >= MOST_WAYS) {
                 text.fail(TOO_MANY, start);
                 return;
@@ -800,7 +801,7 @@ public final class IdeaMousers {
             ways++;
         }
 
-        private void readScheme(Text text, int start) {
+        private void readScheme(Tape text, int start) {
             if (schemes >= MOST_SCHEMES) {
                 text.fail(TOO_MANY, start);
                 return;
@@ -811,7 +812,7 @@ public final class IdeaMousers {
             schemes++;
         }
 
-        private void readCat(Text text, int start) {
+        private void readCat(Tape text, int start) {
             if (cats >= MOST_CATS) {
                 text.fail(TOO_MANY, start);
                 return;
@@ -850,7 +851,7 @@ public final class IdeaMousers {
             length = 0;
         }
 
-        void read(Text text) {
+        void read(Tape text) {
             draftLength = 0;
             readSum(text, 0);
             if (!text.isOver()) {
@@ -862,7 +863,7 @@ public final class IdeaMousers {
             }
         }
 
-        private void readSum(Text text, int depth) {
+        private void readSum(Tape text, int depth) {
             readProduct(text, depth);
             for (int i = 0; i < SHORT_TEXT; i++) {
                 int code = text.takesSign('+') ? PLUS : text.takesSign('-') ? MINUS : NONE;
@@ -874,7 +875,7 @@ public final class IdeaMousers {
             }
         }
 
-        private void readProduct(Text text, int depth) {
+        private void readProduct(Tape text, int depth) {
             readUnit(text, depth);
             for (int i = 0; i < SHORT_TEXT; i++) {
                 int code = text.takesSign('*') ? TIMES
@@ -887,7 +888,7 @@ public final class IdeaMousers {
             }
         }
 
-        private void readUnit(Text text, int depth) {
+        private void readUnit(Tape text, int depth) {
             int start = text.next();
             if (text.numberIsNext()) {
                 put(text.number(0, MOST_NUMBER));
@@ -907,7 +908,7 @@ public final class IdeaMousers {
             }
         }
 
-        private void readBracket(Text text, int start, int depth) {
+        private void readBracket(Tape text, int start, int depth) {
             if (depth >= MOST_OPEN) {
                 text.fail(TOO_MANY, start);
                 return;
@@ -916,7 +917,7 @@ public final class IdeaMousers {
             text.expect(')');
         }
 
-        private void readPair(Text text, int start, int depth, int code) {
+        private void readPair(Tape text, int start, int depth, int code) {
             if (depth >= MOST_OPEN) {
                 text.fail(TOO_MANY, start);
                 return;
@@ -930,7 +931,7 @@ public final class IdeaMousers {
         }
 
         /** The numbers are the places of the parameters of growth. */
-        private static int readVariable(Text text) {
+        private static int readVariable(Tape text) {
             if (text.takesWord("size")) {
                 return 0;
             }
@@ -1016,7 +1017,7 @@ public final class IdeaMousers {
             taking = 0;
         }
 
-        void read(Text text, int cats) {
+        void read(Tape text, int cats) {
             int newInLines = 0;
             int newTaking = 0;
             for (int line = 0; line < BOOK_TEXT && !text.isOver(); line++) {
@@ -1075,14 +1076,14 @@ public final class IdeaMousers {
         int done;
         int refused;
 
-        void read(Text text, House plan) {
+        void read(Tape text, House plan) {
             length = 0;
             for (int i = 0; i < SHORT_TEXT && !text.isOver(); i++) {
                 readStep(text, plan, 0);
             }
         }
 
-        private void readStep(Text text, House plan, int depth) {
+        private void readStep(Tape text, House plan, int depth) {
             int start = text.next();
             if (text.takesWord("hide")) {
                 put(HIDE, text.number(0, plan.schemes - 1), text.number(0, plan.rooms - 1));
@@ -1104,7 +1105,7 @@ public final class IdeaMousers {
             text.expect(';');
         }
 
-        private void readAgain(Text text, House plan, int start, int depth) {
+        private void readAgain(Tape text, House plan, int start, int depth) {
             if (depth >= MOST_OPEN) {
                 text.fail(TOO_MANY, start);
                 return;
@@ -1558,7 +1559,9 @@ public final class IdeaMousers {
         private int scheme;
         private int night;
         private int mat;
-        private boolean anyLeft;
+        /** No pair stands outside these words; none at all, if the first is above the last. */
+        private int firstWord = WORDS;
+        private int lastWord = NONE;
 
         Slip(House plan, Law rule) {
             this.plan = plan;
@@ -1578,7 +1581,7 @@ public final class IdeaMousers {
             clear();
             add(room, others.size(scheme));
             others.leaveOut(scheme);
-            for (int nights = 1; nights <= MOST_NIGHTS && anyLeft; nights++) {
+            for (int nights = 1; nights <= MOST_NIGHTS && firstWord <= lastWord; nights++) {
                 spread(others);
                 night = others.night();
                 mat = Integer.bitCount(others.onMat());
@@ -1594,7 +1597,7 @@ public final class IdeaMousers {
         private void spread(State others) {
             for (int room = 0; room < plan.rooms; room++) {
                 int from = others.besides(room) | 1 << room;
-                for (int word = 0; word < WORDS; word++) {
+                for (int word = firstWord; word <= lastWord; word++) {
                     int bits = 0;
                     for (int other = 0; other < plan.rooms; other++) {
                         if ((from >> other & 1) == 1) {
@@ -1607,11 +1610,13 @@ public final class IdeaMousers {
         }
 
         private void growAll(State others) {
+            int from = firstWord;
+            int to = lastWord;
             clear();
             for (int room = 0; room < plan.rooms; room++) {
                 int cats = Integer.bitCount(others.catsIn(room));
                 int limit = greatestSpared(others, room);
-                for (int word = 0; word < WORDS; word++) {
+                for (int word = from; word <= to; word++) {
                     growWord(room, word, cats, limit);
                 }
             }
@@ -1652,12 +1657,14 @@ public final class IdeaMousers {
         }
 
         private void add(int room, int size) {
-            pairs[room * WORDS + size / 32] |= 1 << size % 32;
-            anyLeft = true;
+            int word = size / 32;
+            pairs[room * WORDS + word] |= 1 << size % 32;
+            firstWord = Math.min(firstWord, word);
+            lastWord = Math.max(lastWord, word);
         }
 
         private boolean hasAny(int room) {
-            for (int word = 0; word < WORDS; word++) {
+            for (int word = firstWord; word <= lastWord; word++) {
                 if (pairs[room * WORDS + word] != 0) {
                     return true;
                 }
@@ -1666,10 +1673,13 @@ public final class IdeaMousers {
         }
 
         private void clear() {
-            for (int i = 0; i < pairs.length; i++) {
-                pairs[i] = 0;
+            for (int room = 0; room < MOST_ROOMS; room++) {
+                for (int word = firstWord; word <= lastWord; word++) {
+                    pairs[room * WORDS + word] = 0;
+                }
             }
-            anyLeft = false;
+            firstWord = WORDS;
+            lastWord = NONE;
         }
     }
 

@@ -69,6 +69,9 @@ public final class OracleTest {
             }
             compare("feed", numbers);
         }
+        if (random.nextInt(20) == 0) {
+            compare(name, some(cut.length()));
+        }
         compare(name, cut.length());
         compare("fault");
         compare("told", 10);
@@ -117,10 +120,11 @@ public final class OracleTest {
         }
     }
 
-    /** One of so many from 0 on; now and then one beside them. */
+    /** One of so many from 0 on; now and then one beside them, or any. */
     private int some(int many) {
         if (random.nextInt(40) == 0) {
-            return random.nextBoolean() ? -1 : many;
+            int[] beside = {-1, many, -1, many, random.nextInt(), Integer.MIN_VALUE, Integer.MAX_VALUE};
+            return beside[random.nextInt(beside.length)];
         }
         return many <= 0 ? 0 : random.nextInt(many);
     }
