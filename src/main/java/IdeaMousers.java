@@ -1457,7 +1457,7 @@ public final class IdeaMousers {
             }
             int took = 0;
             for (int cat = 0; cat < plan.cats; cat++) {
-                int scheme = greatestOf(seenBy(cat));
+                int scheme = living() == 0 ? NONE : greatestOf(seenBy(cat));
                 caught[cat] = scheme;
                 if (scheme != NONE) {
                     moveToMat(scheme, cat);
