@@ -5,6 +5,7 @@ public final class AskTest {
         slips();
         slipsByAPathOfItsOwn();
         slipsPastARival();
+        slipsBySize();
         hunts();
         huntsByMostThenFewest();
         sums();
@@ -83,6 +84,31 @@ public final class AskTest {
         Kit.due("of alike ones the second is not", second.slips(1, 1), 1);
         IdeaMousers two = Kit.withHouse("room 0;room 10;way 0 1;scheme 1 20 0;scheme 0 20 0;cat 1 0;cat 1 0;");
         Kit.due("but by the second cat", two.slips(1, 1), -1);
+    }
+
+    private static void slipsBySize() {
+        // A cat with a nose of 5 in a room of 50 sees what is above 45; it grows by 3 a night.
+        for (int size = 1; size <= 60; size++) {
+            IdeaMousers x = Kit.withHouse("room 0;room 0;room 50;way 0 1;way 1 2;scheme 0 " + size
+                + " 3;scheme 1 " + size + " 3;cat 2 5;");
+            Kit.due("one night by " + size, x.slips(1, 2), size + 3 <= 45 ? 1 : -1);
+            Kit.due("two nights by " + size, x.slips(0, 2), size + 6 <= 45 ? 2 : -1);
+        }
+        // It is not taken where it was, so that the mat stays bare and it does not grow.
+        IdeaMousers x = Kit.withHouse("room 0;room 0;room 10;way 0 1;way 1 2;scheme 0 5 0;cat 0 0;cat 2 0;");
+        Kit.law(x, "mat*60");
+        Kit.due("with a bare mat", x.slips(0, 2), 2);
+        // Great ones that a still greater rival shields, or does not.
+        for (int more = 0; more <= 2; more++) {
+            IdeaMousers y = Kit.withHouse("room 0;room 10;way 0 1;scheme 0 19 0;scheme 1 20 0;scheme 0 19 0;cat 1 0;");
+            Kit.work(y, more == 0 ? "" : "feed 0 " + more + ";feed 2 " + more + ";");
+            Kit.due("the first one, by " + more, y.slips(0, 1), more == 0 ? 1 : -1);
+            Kit.due("the last one, by " + more, y.slips(2, 1), more <= 1 ? 1 : -1);
+        }
+        IdeaMousers z = Kit.withHouse("room 60;room 0;way 0 1;scheme 0 60 0;scheme 1 60 9;cat 1 0;");
+        Kit.work(z, "again 60 [feed 0 60;];hide 1 0;again 60 [feed 1 60;];hide 1 1;");
+        Kit.due("two of 999: the first is taken", z.slips(0, 1), -1);
+        Kit.due("a room without cats", z.slips(1, 0), 1);
     }
 
     private static void hunts() {
@@ -275,8 +301,16 @@ public final class AskTest {
         Kit.missing("crumbs(4, 99, 0)", () -> x.crumbs(4, 99, 0));
         Kit.missing("crumbs(-1, 0, 0)", () -> x.crumbs(-1, 0, 0));
         Kit.illegal("bits of no schemes", () -> x.crumbs(0, 16, 0));
+        Kit.illegal("all bits", () -> x.crumbs(0, -1, 0));
         Kit.illegal("the highest bit", () -> x.crumbs(0, Integer.MIN_VALUE, 0));
         Kit.illegal("n above", () -> x.crumbs(0, 15, 1000));
         Kit.illegal("n below", () -> x.crumbs(0, 15, -1));
+        IdeaMousers y = Kit.withHouse("room 0;scheme 0 1 0;");
+        Kit.work(y, "again 60 [feed 0 60;];");
+        for (int n = 1; n <= 512; n *= 2) {
+            Kit.due("all to one", y.crumbs(0, 1, n), n);
+            Kit.due("all to one", y.crumbs(0, 1, n - 1), n - 1);
+        }
+        Kit.due("999 to one", y.crumbs(0, 1, 999), 999);
     }
 }

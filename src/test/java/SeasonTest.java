@@ -106,6 +106,7 @@ public final class SeasonTest {
             Kit.due("lives from " + first, x.span(first, 20, 4, 9, 2, 2), lives);
         }
         IdeaMousers y = Kit.withHouse(TWO_ROOMS);
+        Kit.due("one night", y.span(0, 1, 1, 0, 0, 0), 1);
         Kit.due("one seed", y.span(0, 1, 2, 0, 2, 0), 1);
         Kit.due("one seed more nights", y.span(0, 1, 3, 0, 2, 0), 0);
         Kit.due("96 nights", y.span(0, 20, 96, 16, 1, 0), 0);

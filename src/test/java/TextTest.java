@@ -65,6 +65,11 @@ public final class TextTest {
         Kit.due("law(150)", x.law(150), 1);
         Kit.put(x, " ".repeat(600));
         Kit.due("house(600) of blanks", x.house(600), 0);
+        Kit.put(x, "sizes");
+        Kit.due("what stands behind the text is no part of a word", x.law(4), 1);
+        Kit.put(x, "125");
+        Kit.due("nor of a number", x.law(2), 1);
+        Kit.due("12", x.would(0, 0, 0, 0, 0, 0, 0), 12);
         Kit.put(x, "room 7;");
         Kit.due("house(0)", x.house(0), 0);
         Kit.due("a house without clauses", x.told(0), 0);
@@ -109,6 +114,8 @@ public final class TextTest {
         houseFault("room\u00001;", -9, 4);
         houseFault("  rum 1;", -9, 2);
         houseFault("roo", -9, 0);
+        houseFault("rooma 1;", -9, 0);
+        houseFault("roomz 1;", -9, 0);
         houseFault("room 61", -8, 5);
         houseFault("room 99999999999999999999;", -8, 5);
         houseFault("room 4294967296;", -8, 5);
@@ -120,6 +127,7 @@ public final class TextTest {
         houseFault("room 1;scheme 1 1 1;", -8, 14);
         houseFault("room 1;scheme 0 1;", -9, 17);
         houseFault("room 1;scheme 0 0 0;", -8, 16);
+        houseFault("room 1;scheme 0 61 0;", -8, 16);
         houseFault("room 1;scheme 0 60 10;", -8, 19);
         houseFault("room 1;cat 1 0;", -8, 11);
         houseFault("room 1;cat 0 21;", -8, 13);
@@ -249,6 +257,8 @@ public final class TextTest {
         lawFault("((((((least", -7, 6);
         lawFault("((((((most", -7, 6);
         lawFault("((((((leasts", -9, 6);
+        lawFault("most[((((((1)))))),1]", -7, 10);
+        lawFault("least[1,((((((1))))))]", -7, 13);
         lawFault("1+least[least[least[most[most[((1)),1],1],1],1],1]", -7, 31);
         lawFault("((((((1))))))+(((((((1)))))))", -7, 20);
     }

@@ -164,6 +164,7 @@ public final class WorkTest {
         Kit.due("left out", x.told(4), 195);
         Kit.due("refused ones", Kit.work(x, "again 60[join 0 0;];".repeat(4) + "night;"), 0);
         Kit.due("196 of them", x.told(10), 196);
+        Kit.due("25 steps", Kit.work(x, "night;".repeat(25)), 25);
         Kit.due("the 200th is done", Kit.work(x, "again 60[night;];".repeat(3) + "again 15[night;];night;night;"), 196);
     }
 
