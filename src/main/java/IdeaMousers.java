@@ -20,7 +20,7 @@ public final class IdeaMousers {
     private static final int TAPE_BYTES = 600;
     private static final int SHORT_TEXT = 150;
     private static final int BOOK_TEXT = 60;
-    
+
     private static final int WRONG = 1;
     private static final int NO_SUCH_NUMBER = 2;
     private static final int TOO_MANY = 3;

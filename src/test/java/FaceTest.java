@@ -37,6 +37,10 @@ public final class FaceTest {
     };
 
     public static void main(String[] args) {
+        Kit.run(FaceTest.class);
+    }
+
+    static void methodsOfTheDocumentAndNoOther() {
         TreeSet<String> methods = new TreeSet<>();
         for (Method method : IdeaMousers.class.getDeclaredMethods()) {
             if (!Modifier.isPrivate(method.getModifiers()) && !method.isSynthetic()) {
@@ -45,6 +49,29 @@ public final class FaceTest {
             }
         }
         Kit.dueText("methods", methods.toString(), new TreeSet<>(Arrays.asList(FACE)).toString());
+    }
+
+    static void noPrivateMethodBearsTheNameOfAPublicOne() {
+        TreeSet<String> names = new TreeSet<>();
+        for (String line : FACE) {
+            names.add(line.substring(line.indexOf(' ') + 1, line.indexOf('(')));
+        }
+        Kit.due("names", names.size(), 42);
+        lookForPrivateOnes(IdeaMousers.class, names);
+        for (Class<?> inside : IdeaMousers.class.getDeclaredClasses()) {
+            lookForPrivateOnes(inside, names);
+        }
+    }
+
+    private static void lookForPrivateOnes(Class<?> where, TreeSet<String> names) {
+        for (Method method : where.getDeclaredMethods()) {
+            if (!Modifier.isPublic(method.getModifiers())) {
+                Kit.due(where.getSimpleName() + "." + method.getName(), names.contains(method.getName()) ? 1 : 0, 0);
+            }
+        }
+    }
+
+    static void oneConstantAndNoOtherField() {
         StringBuilder fields = new StringBuilder();
         for (Field field : IdeaMousers.class.getDeclaredFields()) {
             if (!Modifier.isPrivate(field.getModifiers()) && !field.isSynthetic()) {
@@ -52,14 +79,18 @@ public final class FaceTest {
             }
         }
         Kit.dueText("fields", fields.toString(), "public static final NONE");
-        Kit.due("NONE", IdeaMousers.NONE, -1);
+    }
+
+    static void oneConstructor() {
         Constructor<?>[] constructors = IdeaMousers.class.getDeclaredConstructors();
         Kit.due("constructors", constructors.length, 1);
         Kit.due("constructor is public", constructors[0].getModifiers(), Modifier.PUBLIC);
         Kit.due("its parameters", constructors[0].getParameterCount(), 0);
+    }
+
+    static void publicAndFinal() {
         Kit.due("class is public and final", IdeaMousers.class.getModifiers(),
             Modifier.PUBLIC | Modifier.FINAL);
-        Kit.end("FaceTest");
     }
 
     private static String written(Method method) {

@@ -25,7 +25,11 @@ public final class OracleTest {
         this.random = new Random(run * 7919L + 17);
     }
 
-    public static void main(String[] args) throws ReflectiveOperationException {
+    public static void main(String[] args) {
+        Kit.run(OracleTest.class);
+    }
+
+    static void answersAsThePlainOne() throws ReflectiveOperationException {
         int wrong = 0;
         long calls = 0;
         for (int run = FIRST; run < FIRST + RUNS; run++) {
@@ -35,7 +39,6 @@ public final class OracleTest {
             calls += test.calls;
         }
         Kit.due("wrong answers in " + calls + " calls", wrong, 0);
-        Kit.end("OracleTest");
     }
 
     private void play() throws ReflectiveOperationException {
@@ -131,7 +134,7 @@ public final class OracleTest {
 
     private void compare(String name, int... arguments) throws ReflectiveOperationException {
         calls++;
-        String want = Kit.outcome(() -> plain.call(name, arguments));
+        String want = Kit.outcome(x, y -> plain.call(name, arguments));
         String got = invoke(name, arguments);
         told.append(name).append(Arrays.toString(arguments)).append(" -> ").append(want).append('\n');
         if (!got.equals(want)) {

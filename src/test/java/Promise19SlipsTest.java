@@ -1,0 +1,156 @@
+/** Promise 19: SLIPS. */
+public final class Promise19SlipsTest {
+    private static final String LINE = "room 0;room 0;room 0;room 0;way 0 1;way 2 1;way 2 3;";
+
+    public static void main(String[] args) {
+        Kit.run(Promise19SlipsTest.class);
+    }
+
+    static void noSuchSchemeOrRoom() {
+        Kit.missing("slips(-1, 0)", x -> x.slips(-1, 0));
+        Kit.missing("slips(4, 0)", x -> x.slips(4, 0));
+        Kit.missing("slips(0, -1)", x -> x.slips(0, -1));
+        Kit.missing("slips(0, 4)", x -> x.slips(0, 4));
+        Kit.missing("slips(4, 4)", x -> x.slips(4, 4));
+        Kit.missing("wild numbers", x -> x.slips(Integer.MIN_VALUE, Integer.MAX_VALUE));
+        Kit.missing("a dead one and no such room", x -> { Kit.house(x, Kit.HOUSE); Kit.work(x, "night;"); }, x -> x.slips(1, 4));
+    }
+
+    static void zeroIfItIsThere() {
+        IdeaMousers x = Kit.withHouse("room 0;scheme 0 60 0;cat 0 20;");
+        Kit.due("though a cat sees it", x.slips(0, 0), 0);
+    }
+
+    static void oneWayANight() {
+        IdeaMousers x = Kit.withHouse(LINE + "scheme 0 1 0;scheme 2 1 0;");
+        for (int room = 0; room < 4; room++) {
+            Kit.due("nights to room " + room, x.slips(0, room), room);
+        }
+        Kit.due("and back", x.slips(1, 0), 2);
+    }
+
+    static void byOpenWaysAlone() {
+        IdeaMousers x = Kit.withHouse(LINE + "scheme 0 1 0;");
+        Kit.work(x, "shut 1;");
+        Kit.due("a shut way", x.slips(0, 2), -1);
+        Kit.due("up to it", x.slips(0, 1), 1);
+        Kit.due("no way at all", Kit.withHouse("room 0;room 0;scheme 0 1 0;").slips(0, 1), -1);
+    }
+
+    static void noneIfItDoesNotLive() {
+        IdeaMousers x = Kit.withHouse(Kit.HOUSE);
+        Kit.work(x, "night;");
+        Kit.due("taken, not even where it was", x.slips(1, 0), -1);
+        IdeaMousers y = Kit.withHouse(Kit.HOUSE);
+        Kit.work(y, "join 0 1;");
+        Kit.due("joined", y.slips(1, 0), -1);
+    }
+
+    static void itMustLiveBehindTheNight() {
+        for (int size = 1; size <= 60; size++) {
+            // A cat with a nose of 5 in a room of 50 sees what is above 45; it grows by 3 a night.
+            IdeaMousers x = Kit.withHouse("room 0;room 0;room 50;way 0 1;way 1 2;scheme 0 " + size
+                + " 3;scheme 1 " + size + " 3;cat 2 5;");
+            Kit.due("one night by " + size, x.slips(1, 2), size + 3 <= 45 ? 1 : -1);
+            Kit.due("two nights by " + size, x.slips(0, 2), size + 6 <= 45 ? 2 : -1);
+        }
+    }
+
+    static void upTo40Nights() {
+        // It would be seen in room 1, but for the night in which the other one is greater.
+        IdeaMousers x = Kit.withHouse("room 0;room 10;way 0 1;scheme 0 20 0;scheme 1 10 0;cat 1 0;");
+        Kit.due("never", x.slips(0, 1), -1);
+        Kit.law(x, "scheme*(night/39)*50");
+        Kit.due("in the 40th night", x.slips(0, 1), 40);
+        Kit.law(x, "scheme*(night/40)*50");
+        Kit.due("in the 41st night", x.slips(0, 1), -1);
+    }
+
+    static void ofAlikeOnesTheFirstIsTaken() {
+        Kit.due("it is the first", Kit.withHouse("room 0;room 10;way 0 1;scheme 0 20 0;scheme 1 20 0;cat 1 0;").slips(0, 1), -1);
+        Kit.due("it is the second", Kit.withHouse("room 0;room 10;way 0 1;scheme 1 20 0;scheme 0 20 0;cat 1 0;").slips(1, 1), 1);
+        Kit.due("but for a second cat",
+            Kit.withHouse("room 0;room 10;way 0 1;scheme 1 20 0;scheme 0 20 0;cat 1 0;cat 1 0;").slips(1, 1), -1);
+    }
+
+    static void aGreaterOneIsTakenInItsStead() {
+        for (int more = 0; more <= 2; more++) {
+            IdeaMousers y = Kit.withHouse("room 0;room 10;way 0 1;scheme 0 19 0;scheme 1 20 0;scheme 0 19 0;cat 1 0;");
+            Kit.work(y, more == 0 ? "" : "feed 0 " + more + ";feed 2 " + more + ";");
+            Kit.due("the first one, by " + more, y.slips(0, 1), more == 0 ? 1 : -1);
+            Kit.due("the last one, by " + more, y.slips(2, 1), more <= 1 ? 1 : -1);
+        }
+    }
+
+    static void greatestSizes() {
+        IdeaMousers z = Kit.withHouse("room 60;room 0;way 0 1;scheme 0 60 0;scheme 1 60 9;cat 1 0;");
+        Kit.work(z, "again 60 [feed 0 60;];hide 1 0;again 60 [feed 1 60;];hide 1 1;");
+        Kit.due("two of 999: the first is taken", z.slips(0, 1), -1);
+        Kit.due("999 in a room without cats", z.slips(1, 0), 1);
+        IdeaMousers y = Kit.withHouse("room 60;room 0;room 0;way 0 1;way 1 2;scheme 0 60 9;");
+        Kit.work(y, "again 60 [feed 0 60;];");
+        Kit.due("999 grows no more", y.slips(0, 2), 2);
+    }
+
+    static void byTheRoomsItGoesItGrows() {
+        // The short way leads by room 1, where it grows too great for the cat in room 3.
+        IdeaMousers x = Kit.withHouse("room 0;room 9;room 0;room 10;room 0;way 0 1;way 1 3;way 0 2;way 2 4;way 4 3;scheme 0 8 0;cat 3 0;");
+        Kit.due("by the short way", x.slips(0, 3), 2);
+        Kit.law(x, "hide%10");
+        Kit.due("by the long way", x.slips(0, 3), 3);
+        Kit.work(x, "shut 4;");
+        Kit.due("by none", x.slips(0, 3), -1);
+    }
+
+    static void itMayStay() {
+        // The cat of room 1 sees it but for the night in which it takes the greater one that grew.
+        IdeaMousers x = Kit.withHouse("room 60;room 0;way 0 1;scheme 0 9 0;scheme 1 1 0;scheme 1 1 0;scheme 1 1 0;cat 1 0;");
+        Kit.law(x, "scheme/3*(night/2)*20");
+        Kit.due("it waits for the third night", x.slips(0, 1), 3);
+    }
+
+    static void itMayComeBack() {
+        // In night 0 it would be seen where it is, in night 1 the other one is.
+        IdeaMousers x = Kit.withHouse("room 0;room 60;room 60;way 0 1;way 0 2;scheme 0 9 0;cat 0 0;");
+        Kit.due("it hides by the way from where it is", x.slips(0, 1), 1);
+        Kit.due("and by another", x.slips(0, 2), 1);
+        IdeaMousers y = Kit.withHouse("room 0;room 60;way 0 1;scheme 1 9 0;scheme 0 1 0;cat 0 0;");
+        Kit.due("where it is shielded by none", y.slips(0, 0), -1);
+        Kit.work(y, "again 9 [feed 1 1;];");
+        Kit.due("where a greater one is taken", y.slips(0, 0), 1);
+    }
+
+    static void theLawSeesTheMatTheCatsAndTheNight() {
+        IdeaMousers y = Kit.withHouse("room 0;room 6;way 0 1;scheme 0 5 0;cat 1 0;");
+        Kit.law(y, "cats*2+night");
+        Kit.due("the cat there makes it grow", y.slips(0, 1), -1);
+        Kit.law(y, "cats+night");
+        Kit.due("not too much", y.slips(0, 1), 1);
+        IdeaMousers x = Kit.withHouse("room 0;room 0;room 10;way 0 1;way 1 2;scheme 0 5 0;cat 0 0;cat 2 0;");
+        Kit.law(x, "mat*60");
+        Kit.due("with a bare mat", x.slips(0, 2), 2);
+        IdeaMousers z = Kit.withHouse("room 0;room 0;room 10;room 0;way 0 1;way 1 2;scheme 0 5 0;scheme 3 1 0;cat 3 0;cat 2 0;");
+        Kit.law(z, "mat*6");
+        Kit.due("with one on the mat behind the first night", z.slips(0, 2), -1);
+        Kit.law(z, "mat*5");
+        Kit.due("with less", z.slips(0, 2), 2);
+    }
+
+    static void beyondNight900Too() {
+        IdeaMousers x = Kit.withHouse("room 60;room 60;way 0 1;room 10;way 1 2;scheme 0 1 0;cat 2 0;");
+        for (int i = 0; i < 5; i++) {
+            Kit.work(x, "again 60 [again 60 [night;];];");
+        }
+        Kit.law(x, "night/901*10");
+        Kit.due("too great by night 901", x.slips(0, 2), -1);
+        Kit.law(x, "night/902*10");
+        Kit.due("not by night 902", x.slips(0, 2), 2);
+    }
+
+    static void asksOnly() {
+        Kit.asksOnly("slips(0, 3)", x -> x.slips(0, 3));
+        Kit.asksOnly("slips(1, 0)", x -> x.slips(1, 0));
+        Kit.asksOnly("slips(2, 3)", x -> x.slips(2, 3));
+        Kit.asksOnly("slips(3, 1)", x -> x.slips(3, 1));
+    }
+}
