@@ -115,7 +115,7 @@ final class Kit {
         x.image();
         work(x, "night;join 3 3;");
         x.image();
-        work(x, "call 1 3;join 2 2;hide 0 1;");
+        work(x, "call 1 3;join 2 2;hide 0 1;join 0 2;");
         law(x, "1+x");
     }
 
@@ -245,6 +245,22 @@ final class Kit {
         }
         add(out.append(" law"), x.would(11, 7, 23, 3, 5, 2, 1), x.would(50, 1, 9, 1, 17, 4, 6));
         add(out.append(" book"), x.fits(0), x.fits(1), x.look(0), x.look(1));
+        tellWhatWouldBe(out, x);
+    }
+
+    private static void tellWhatWouldBe(StringBuilder out, IdeaMousers x) {
+        add(out.append(" would"), x.ahead(5, 1), x.doomed(), x.season(9, 7, 8, 1), x.hunt(0), x.hunt(1));
+        for (int cat = 0; cat < x.told(3); cat++) {
+            add(out, x.prey(cat));
+        }
+        for (int scheme = 0; scheme < x.told(2); scheme++) {
+            add(out, x.lasts(scheme), x.slips(scheme, x.told(0) - 1));
+        }
+    }
+
+    /** Asks for all that is and would be, so that what such a call leaves behind would be found. */
+    static void askAll(IdeaMousers x) {
+        tell(new StringBuilder(), x);
     }
 
     private static void tellStates(StringBuilder out, IdeaMousers x) {

@@ -75,6 +75,9 @@ public final class Promise03HouseTest {
         Kit.put(x, "room 123;");
         Kit.due("house(7) ends within a number", x.house(7), -9);
         Kit.due("at the length", x.fault(), 7);
+        Kit.put(x, "room 7;");
+        Kit.due("house(3) is no word", x.house(3), -9);
+        Kit.due("at its first byte", x.fault(), 0);
         Kit.put(x, "room 1;roomroom");
         Kit.due("house(11) ends within a word", x.house(11), -9);
         Kit.due("the word is whole, so at the length", x.fault(), 11);
@@ -381,9 +384,19 @@ public final class Promise03HouseTest {
 
     static void nothingOfALongerHouseIsLeft() {
         IdeaMousers x = stands(FULL);
-        Kit.work(x, "hide 0 0;hide 7 0;shut 11;night;");
+        Kit.work(x, "hide 0 0;hide 7 0;join 2 1;shut 11;night;");
+        Kit.book(x, "0 1;4 1;");
+        Kit.askAll(x);
         Kit.house(x, "room 3;scheme 0 2 1;cat 0 0;");
         Kit.sameAs("as told alone", x, y -> Kit.house(y, "room 3;scheme 0 2 1;cat 0 0;"));
+    }
+
+    static void thereIsNoBook() {
+        IdeaMousers x = Kit.made(Kit::rich);
+        Kit.house(x, Kit.HOUSE);
+        Kit.due("lines", x.told(9), 0);
+        Kit.due("all pairs fit", x.fits(0), 16);
+        Kit.due("the first", x.fits(1), 0);
     }
 
     static void refusalsAreStillCounted() {

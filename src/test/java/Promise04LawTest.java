@@ -71,6 +71,9 @@ public final class Promise04LawTest {
         Kit.put(x, "sizes");
         Kit.due("what stands behind the text is no part of a word", x.law(4), 1);
         Kit.due("size", x.would(33, 0, 0, 0, 0, 0, 0), 33);
+        Kit.put(x, "size");
+        Kit.due("law(3) is no word", x.law(3), -9);
+        Kit.due("at its first byte", x.fault(), 0);
         Kit.put(x, "125");
         Kit.due("nor of a number", x.law(2), 1);
         Kit.due("12", x.would(0, 0, 0, 0, 0, 0, 0), 12);

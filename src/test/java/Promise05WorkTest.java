@@ -91,6 +91,9 @@ public final class Promise05WorkTest {
         Kit.put(x, "night;");
         Kit.due("work(5)", x.work(5), -9);
         Kit.due("at the length", x.fault(), 5);
+        Kit.put(x, "night;");
+        Kit.due("work(4) is no word", x.work(4), -9);
+        Kit.due("at its first byte", x.fault(), 0);
     }
 
     // ---- numbers ----

@@ -102,6 +102,34 @@ public final class Promise19SlipsTest {
         Kit.due("by none", x.slips(0, 3), -1);
     }
 
+    static void whatWasTakenOnAPathIsNotThereLater() {
+        // By night 1 the other one in room 1 would be greater; but both rooms are deadly in night 0.
+        String house = "room 0;room 10;way 0 1;scheme 0 20 0;scheme 1 10 0;cat 1 0;";
+        IdeaMousers x = Kit.withHouse(house);
+        Kit.law(x, "scheme*night*50");
+        Kit.due("it waits", x.slips(0, 1), 2);
+        IdeaMousers y = Kit.withHouse(house + "cat 0 0;");
+        Kit.law(y, "scheme*night*50");
+        Kit.due("it can't wait", y.slips(0, 1), -1);
+    }
+
+    static void whatGrewOnAPathIsNotSmallLater() {
+        // In night 0 it grows beyond what hides it in room 1, wherever it is.
+        IdeaMousers x = Kit.withHouse("room 60;room 9;room 60;way 0 2;way 2 1;scheme 0 5 0;cat 1 0;");
+        Kit.law(x, "5*(1-least[1,night])");
+        Kit.due("too great", x.slips(0, 1), -1);
+        Kit.law(x, "4*(1-least[1,night])");
+        Kit.due("not too great", x.slips(0, 1), 2);
+    }
+
+    static void askedOfAnotherOneInBetween() {
+        IdeaMousers x = Kit.withHouse(LINE + "scheme 0 60 9;scheme 3 1 0;");
+        Kit.due("first", x.slips(0, 3), 3);
+        Kit.due("another", x.slips(1, 2), 1);
+        Kit.due("first again", x.slips(0, 1), 1);
+        Kit.due("another again", x.slips(1, 0), 3);
+    }
+
     static void itMayStay() {
         // The cat of room 1 sees it but for the night in which it takes the greater one that grew.
         IdeaMousers x = Kit.withHouse("room 60;room 0;way 0 1;scheme 0 9 0;scheme 1 1 0;scheme 1 1 0;scheme 1 1 0;cat 1 0;");

@@ -72,6 +72,19 @@ public final class Promise20HuntTest {
         is(Kit.withHouse(LINE + "scheme 0 1 0;scheme 1 1 0;cat 1 0;cat 2 0;"), 2, 2);
     }
 
+    static void oneInBetweenIsGivenNone() {
+        is(Kit.withHouse("room 0;room 0;room 60;scheme 0 1 0;scheme 1 1 0;cat 0 0;cat 2 0;cat 1 0;"), 2, 0);
+    }
+
+    static void ofALaterHouseWithFewerCats() {
+        IdeaMousers x = Kit.withHouse(LINE + "scheme 2 1 0;".repeat(8) + "cat 2 0;".repeat(5));
+        is(x, 5, 0);
+        Kit.house(x, LINE + "scheme 2 1 0;cat 0 0;");
+        is(x, 1, 2);
+        Kit.house(x, LINE + "scheme 2 1 0;scheme 0 1 0;cat 0 0;cat 0 0;cat 0 0;");
+        is(x, 2, 2);
+    }
+
     static void asManyAsCanBe() {
         is(Kit.withHouse(LINE + "scheme 2 1 0;".repeat(8) + "cat 0 0;".repeat(5)), 5, 10);
         is(Kit.withHouse(LINE + "scheme 2 1 0;".repeat(3) + "cat 0 0;".repeat(5)), 3, 6);

@@ -64,6 +64,17 @@ public final class Promise21PreyTest {
         is(Kit.withHouse("room 10;room 10;way 0 1;scheme 0 8 0;scheme 1 5 0;cat 0 9;cat 0 3;"), 1, 0);
     }
 
+    static void oneInBetweenIsGivenNone() {
+        is(Kit.withHouse("room 0;room 0;room 60;scheme 0 1 0;scheme 1 1 0;cat 0 0;cat 2 0;cat 1 0;"), 0, -1, 1);
+    }
+
+    static void ofALaterHouseWithFewerCats() {
+        IdeaMousers x = Kit.withHouse(LINE + "scheme 2 1 0;".repeat(8) + "cat 2 0;".repeat(5));
+        is(x, 0, 1, 2, 3, 4);
+        Kit.house(x, LINE + "scheme 2 1 0;cat 0 0;");
+        is(x, 0);
+    }
+
     static void theLastSchemeAndTheLastCat() {
         is(Kit.withHouse("room 40;" + "scheme 0 1 0;".repeat(7) + "scheme 0 21 0;" + "cat 0 0;".repeat(4) + "cat 0 20;"),
             -1, -1, -1, -1, 7);

@@ -22,6 +22,12 @@ public final class Promise23FitsTest {
         is(Kit.withHouse("room 0;".repeat(8) + "scheme 0 1 0;".repeat(8)), "", 64, 0);
     }
 
+    static void withoutABookAllPairs() {
+        IdeaMousers x = Kit.withHouse(Kit.HOUSE);
+        Kit.due("how many", x.fits(0), 16);
+        Kit.due("the first", x.fits(1), 0);
+    }
+
     static void noneWithoutSchemes() {
         is(Kit.withHouse("room 0;cat 0 0;"), "", 0, -1);
         is(Kit.withHouse("room 0;cat 0 0;"), "0 0;", 0, -1);

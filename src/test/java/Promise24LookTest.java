@@ -40,6 +40,14 @@ public final class Promise24LookTest {
         is(Kit.withHouse("room 0;room 0;scheme 1 5 0;cat 0 0;cat 1 0;"), "", 0, 1);
     }
 
+    static void askedAgainTheSame() {
+        IdeaMousers x = Kit.withHouse("room 0;room 60;scheme 1 5 0;cat 0 0;cat 0 0;");
+        for (int i = 0; i < 5; i++) {
+            is(x, "", 0, 1);
+            Kit.due("pairs", x.fits(0), 2);
+        }
+    }
+
     static void theOnlyOneInNoLine() {
         is(Kit.withHouse(THREE), "0 0;1 1;", 2, 1);
         is(Kit.withHouse(THREE), "1 1;2 0;", 0, 1);

@@ -86,6 +86,35 @@ public final class Promise40ImageTest {
         Kit.due("all live", x.told(5), 15);
     }
 
+    static void ofWorksThoughOthersTookTheirPlace() {
+        IdeaMousers x = Kit.withHouse(Kit.HOUSE);
+        Kit.work(x, "night;");
+        Kit.work(x, "shut 0;");
+        x.image();
+        x.undo();
+        x.undo();
+        Kit.work(x, "shut 3;");
+        x.image();
+        Kit.work(x, "feed 3 9;");
+        Kit.work(x, "night;");
+        x.undo();
+        Kit.due("the second image", x.restore(), 1);
+        Kit.due("works", x.count(2), 1);
+        Kit.due("undo", x.undo(), 0);
+        Kit.due("open", x.told(8), 0);
+        Kit.work(x, "shut 1;");
+        Kit.work(x, "shut 2;");
+        Kit.work(x, "night;");
+        Kit.due("the first image", x.restore(), 0);
+        Kit.due("works", x.count(2), 2);
+        Kit.due("shut", x.told(8), 1);
+        Kit.due("undo", x.undo(), 1);
+        Kit.due("night", x.told(4), 1);
+        Kit.due("open", x.told(8), 0);
+        Kit.due("undo", x.undo(), 0);
+        Kit.due("night", x.told(4), 0);
+    }
+
     static void ofSixteenWorks() {
         IdeaMousers x = Kit.withHouse("room 60;scheme 0 1 0;");
         for (int i = 0; i < 16; i++) {
