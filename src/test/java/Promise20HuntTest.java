@@ -74,6 +74,7 @@ public final class Promise20HuntTest {
 
     static void oneInBetweenIsGivenNone() {
         is(Kit.withHouse("room 0;room 0;room 60;scheme 0 1 0;scheme 1 1 0;cat 0 0;cat 2 0;cat 1 0;"), 2, 0);
+        is(Kit.withHouse("room 10;room 60;scheme 0 11 0;scheme 0 5 0;cat 0 9;cat 1 0;cat 0 0;"), 2, 0);
     }
 
     static void ofALaterHouseWithFewerCats() {
