@@ -29,6 +29,17 @@ public final class Promise19SlipsTest {
         Kit.due("and back", x.slips(1, 0), 2);
     }
 
+    static void inAHouseOfEightRooms() {
+        IdeaMousers x = Kit.withHouse("room 60;".repeat(8) + "way 0 1;way 2 1;way 2 3;way 4 3;way 4 5;way 6 5;way 6 7;"
+            + "scheme 0 1 0;" + "scheme 3 1 0;".repeat(6) + "scheme 7 1 0;" + "cat 7 0;".repeat(5));
+        for (int room = 0; room < 8; room++) {
+            Kit.due("the first to room " + room, x.slips(0, room), room);
+            Kit.due("the last to room " + room, x.slips(7, room), 7 - room);
+        }
+        Kit.work(x, "shut 6;");
+        Kit.due("shut off", x.slips(0, 7), -1);
+    }
+
     static void byOpenWaysAlone() {
         IdeaMousers x = Kit.withHouse(LINE + "scheme 0 1 0;");
         Kit.work(x, "shut 1;");
