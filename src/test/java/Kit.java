@@ -10,6 +10,10 @@ final class Kit {
         long of(IdeaMousers x);
     }
 
+    interface Numbered {
+        long of(IdeaMousers x, int number);
+    }
+
     interface Change {
         void on(IdeaMousers x);
     }
@@ -18,6 +22,17 @@ final class Kit {
     static final String HOUSE =
         "room 10;room 20;room 0;room 30;way 0 1;way 1 2;way 2 0;way 2 3;"
         + "scheme 0 5 2;scheme 0 9 1;scheme 1 15 0;scheme 3 12 3;cat 0 4;cat 2 9;cat 1 0;";
+
+    /** As many of each kind as of no other one: 5 rooms, 6 ways, 3 schemes, 2 cats; each cat sees one. */
+    static final String UNEVEN =
+        "room 10;room 0;room 12;room 8;room 20;way 0 1;way 1 2;way 2 3;way 3 4;way 4 0;way 0 2;"
+        + "scheme 4 7 1;scheme 3 9 2;scheme 4 30 3;cat 3 4;cat 4 1;";
+
+    /** Houses with a fault at their end, ahead of which fewer or more of each kind are told. */
+    static final String[] FAULTY_HOUSES = {
+        "room 9;room 9;way 0 1;scheme 0 1 1;x",
+        "room 9;".repeat(8) + "way 6 7;".repeat(12) + "scheme 6 1 1;".repeat(8) + "cat 6 1;".repeat(5) + "x",
+    };
 
     private static int checks;
     private static int wrong;
@@ -173,6 +188,19 @@ final class Kit {
 
     static void illegal(String what, Change setup, Ask ask) {
         refused(what, setup, ask, 1);
+    }
+
+    /** By the UNEVEN house there are so many of what a call is for, behind a faulty text, too. */
+    static void hasSoMany(String what, int many, Numbered ask) {
+        IdeaMousers x = withHouse(UNEVEN);
+        for (int text = -1; text < FAULTY_HOUSES.length; text++) {
+            if (text >= 0) {
+                due("a house with a fault", house(x, FAULTY_HOUSES[text]), -9);
+            }
+            String last = outcome(x, y -> ask.of(y, many - 1));
+            due(what + " of the last, " + last, last.endsWith("Exception") ? 1 : 0, 0);
+            dueText(what + " of one more", outcome(x, y -> ask.of(y, many)), "NoSuchElementException");
+        }
     }
 
     /** The call throws, is counted by its reason, and changes nothing else. */

@@ -2,6 +2,7 @@ import java.lang.reflect.InvocationTargetException;
 import java.lang.reflect.Method;
 import java.util.ArrayList;
 import java.util.Arrays;
+import java.util.Collections;
 import java.util.List;
 import java.util.NoSuchElementException;
 import java.util.Random;
@@ -39,6 +40,51 @@ public final class OracleTest {
             calls += test.calls;
         }
         Kit.due("wrong answers in " + calls + " calls", wrong, 0);
+    }
+
+    /** In most houses the first path that a scheme tries is as good as any; in these it often is not. */
+    static void slipsByGatesAsThePlainOne() throws ReflectiveOperationException {
+        int wrong = 0;
+        for (int run = FIRST; run < FIRST + RUNS; run++) {
+            OracleTest test = new OracleTest(run);
+            test.slipByGates();
+            wrong += test.wrong;
+        }
+        Kit.due("wrong answers", wrong, 0);
+    }
+
+    /** Rooms 0, 1 or 2, 3, 4 or 5, 6, 7 in this order, under other numbers; cats in some of the later ones. */
+    private void slipByGates() throws ReflectiveOperationException {
+        List<Integer> rooms = new ArrayList<>(List.of(0, 1, 2, 3, 4, 5, 6, 7));
+        Collections.shuffle(rooms, random);
+        int[][] gates = {{6}, {3, 6}, {6, 7}, {3}, {4, 6}};
+        int[] gate = gates[random.nextInt(gates.length)];
+        int[] hides = random.ints(8, 0, 61).toArray();
+        StringBuilder schemes = new StringBuilder();
+        StringBuilder cats = new StringBuilder();
+        for (int at : gate) {
+            hides[rooms.get(at)] = 10 + random.nextInt(30);
+            cats.append("cat " + rooms.get(at) + " " + random.nextInt(9) + ";");
+        }
+        int ahead = random.nextInt(3);
+        for (int i = 0; i < ahead; i++) {
+            schemes.append("scheme " + rooms.get(gate[random.nextInt(gate.length)]) + " " + (5 + random.nextInt(40)) + " 1;");
+        }
+        schemes.append("scheme " + rooms.get(0) + " " + (1 + random.nextInt(8)) + " 2;");
+        StringBuilder house = new StringBuilder();
+        for (int hide : hides) {
+            house.append("room " + hide + ";");
+        }
+        for (int[] way : new int[][] {{0, 1}, {0, 2}, {1, 3}, {2, 3}, {3, 4}, {3, 5}, {4, 6}, {5, 6}, {6, 7}}) {
+            house.append("way " + rooms.get(way[0]) + " " + rooms.get(way[1]) + ";");
+        }
+        text("house", house.toString() + schemes + cats);
+        int by = 3 + random.nextInt(11);
+        String[] laws = {"hide%" + by, "(hide+night)%" + by, "(hide+size)%" + by, "(hide*size)%" + by,
+            "(hide+size*3+night)%" + by, "most[1,(" + by + "-size)*2]+hide%4", "hide%" + by + "*(1-night%2)"};
+        text("law", laws[random.nextInt(laws.length)]);
+        compare("slips", ahead, rooms.get(6));
+        compare("slips", ahead, rooms.get(7));
     }
 
     private void play() throws ReflectiveOperationException {

@@ -382,6 +382,54 @@ public final class Promise03HouseTest {
         Kit.due("not full", x.work(0), 0);
     }
 
+    static void noCatTookAny() {
+        String house = "room 0;room 0;" + "scheme 1 1 0;".repeat(8) + "cat 1 0;".repeat(5);
+        IdeaMousers x = Kit.withHouse(house);
+        Kit.work(x, "night;");
+        for (int cat = 0; cat < 5; cat++) {
+            Kit.due("took, cat " + cat, x.cat(cat, 2), 1);
+        }
+        Kit.house(x, house);
+        for (int cat = 0; cat < 5; cat++) {
+            Kit.due("took none, cat " + cat, x.cat(cat, 2), 0);
+        }
+        Kit.due("proudest", x.proudest(0), -1);
+    }
+
+    static void aFaultLeavesWhatIsAsked() {
+        for (String text : Kit.FAULTY_HOUSES) {
+            IdeaMousers x = Kit.withHouse(Kit.UNEVEN);
+            Kit.due("house <" + text + ">", Kit.house(x, text), -9);
+            Kit.dueText("all that is asked", asked(x), asked(Kit.withHouse(Kit.UNEVEN)));
+        }
+        IdeaMousers y = Kit.withHouse(Kit.UNEVEN);
+        Kit.due("safe", y.safe(), 1);
+        Kit.due("hungry", y.hungry(), 0);
+        Kit.due("crowd", y.crowd(0), 4);
+        Kit.due("sums", y.sums(4, 37), 1);
+        Kit.due("crumbs", y.crumbs(2, 5, 9), 4);
+    }
+
+    private static String asked(IdeaMousers x) {
+        StringBuilder out = new StringBuilder();
+        Kit.Ask[] asks = {
+            y -> y.safe(), y -> y.hungry(), y -> y.doomed(), y -> y.crowd(0), y -> y.crowd(1), y -> y.havens(9),
+            y -> y.greatest(0), y -> y.sums(4, 37), y -> y.sums(4, 30), y -> y.weight(4), y -> y.far(1, 4),
+            y -> y.crumbs(2, 5, 9), y -> y.crumbs(0, 7, 20), y -> y.crumbs(0, 8, 20), y -> y.escapes(2),
+            y -> y.hunt(0), y -> y.hunt(1), y -> y.prey(1), y -> y.fits(0), y -> y.look(0), y -> y.look(1),
+            y -> y.slips(0, 2), y -> y.lasts(2), y -> y.grown(2, 0), y -> y.ahead(3, 1),
+            y -> y.span(5, 20, 6, 8, 0, 2), y -> y.span(5, 20, 6, 8, 2, 0), y -> y.span(5, 20, 6, 8, 2, 3),
+        };
+        for (Kit.Ask ask : asks) {
+            out.append(' ').append(Kit.outcome(x, ask));
+        }
+        for (int seed = 0; seed < 20; seed++) {
+            int drawn = seed;
+            out.append(' ').append(Kit.outcome(x, y -> y.season(drawn, 4, 8, 1)));
+        }
+        return out.toString();
+    }
+
     static void nothingOfALongerHouseIsLeft() {
         IdeaMousers x = stands(FULL);
         Kit.work(x, "hide 0 0;hide 7 0;join 2 1;shut 11;night;");

@@ -263,6 +263,15 @@ public final class Promise04LawTest {
         faulty("((((((1+2)+(3)+((4", -7, 16);
     }
 
+    static void theSeventhOpenBehindEachSign() {
+        for (String sign : new String[] {"+", "-", "*", "/", "%"}) {
+            faulty("((((((1" + sign + "(2))))))))", -7, 8);
+            faulty("((((((1" + sign + "most[2,3]))))))", -7, 8);
+            faulty("1" + sign + "least[(((((4*(2))))))," , -7, 15);
+            is("least[9,(((((1" + sign + "1)))))]+5", "+-*/%".indexOf(sign) == 0 ? 7 : "*/".contains(sign) ? 6 : 5);
+        }
+    }
+
     static void theSeventhOpenWhateverComesBehind() {
         faulty("(((((((", -7, 6);
         faulty("((((((( ", -7, 6);

@@ -86,6 +86,15 @@ public final class Promise06BookTest {
         Kit.due("no lines", x.book(0), 0);
     }
 
+    static void catsOfTheHouseThatStands() {
+        for (String text : Kit.FAULTY_HOUSES) {
+            IdeaMousers x = Kit.withHouse(Kit.UNEVEN);
+            Kit.due("a house with a fault", Kit.house(x, text), -9);
+            Kit.due("two cats", Kit.book(x, "0 1;1 0;"), 2);
+            Kit.due("no third one", Kit.book(x, "2 1;"), -8);
+        }
+    }
+
     static void kindsAre0And1() {
         stands("0 0;", 1);
         stands("0 01;", 1);

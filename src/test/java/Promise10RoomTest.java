@@ -75,6 +75,10 @@ public final class Promise10RoomTest {
         Kit.due("both are shut", x.room(0, 3), 0);
     }
 
+    static void soManyAsTheHouseHas() {
+        Kit.hasSoMany("room(.., 3)", 5, (x, room) -> x.room(room, 3));
+    }
+
     static void asksOnly() {
         Kit.asksOnly("room(2, 3)", x -> x.room(2, 3));
         Kit.asksOnly("room(0, 1)", x -> x.room(0, 1));

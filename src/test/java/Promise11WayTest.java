@@ -33,6 +33,19 @@ public final class Promise11WayTest {
         }
     }
 
+    static void twelveWaysEachWithItsOwnEnds() {
+        int[][] ways = {{7, 6}, {6, 5}, {5, 4}, {4, 3}, {3, 2}, {2, 1}, {1, 0}, {7, 5}, {6, 4}, {5, 3}, {4, 2}, {3, 1}};
+        StringBuilder house = new StringBuilder("room 0;".repeat(8));
+        for (int[] way : ways) {
+            house.append("way " + way[0] + " " + way[1] + ";");
+        }
+        IdeaMousers x = Kit.withHouse(house.toString());
+        for (int way = 0; way < 12; way++) {
+            Kit.due("A of " + way, x.way(way, 0), ways[way][0]);
+            Kit.due("B of " + way, x.way(way, 1), ways[way][1]);
+        }
+    }
+
     static void shutAndOpenAgain() {
         IdeaMousers x = Kit.withHouse("room 0;room 0;" + "way 1 0;".repeat(12));
         Kit.due("open", x.way(11, 2), 0);
@@ -43,6 +56,10 @@ public final class Promise11WayTest {
         Kit.due("B stays", x.way(11, 1), 0);
         Kit.work(x, "shut 11;");
         Kit.due("open again", x.way(11, 2), 0);
+    }
+
+    static void soManyAsTheHouseHas() {
+        Kit.hasSoMany("way(.., 2)", 6, (x, way) -> x.way(way, 2));
     }
 
     static void asksOnly() {

@@ -61,10 +61,31 @@ public final class Promise12SchemeTest {
         is(x, 0, 1, 1, 0, 0, 40, 4);
     }
 
+    static void eachHasItsOwnNightAndCat() {
+        // In night 0 the last one is taken, in night 7 the first; each by another cat than the one before.
+        StringBuilder work = new StringBuilder();
+        for (int scheme = 7; scheme >= 0; scheme--) {
+            work.append("hide " + scheme + " " + (scheme + 3) % 5 + ";night;");
+        }
+        IdeaMousers x = Kit.withHouse("room 0;room 0;room 0;room 0;room 0;room 0;way 5 0;way 5 1;way 5 2;way 5 3;way 5 4;"
+            + "scheme 5 1 0;".repeat(8) + "cat 0 0;cat 1 0;cat 2 0;cat 3 0;cat 4 0;");
+        Kit.due("steps", Kit.work(x, work.toString()), 16);
+        for (int scheme = 0; scheme < 8; scheme++) {
+            is(x, scheme, (scheme + 3) % 5, 1, 0, 0, 7 - scheme, (scheme + 3) % 5);
+        }
+        for (int cat = 0; cat < 5; cat++) {
+            Kit.due("cat " + cat + " is where it was", x.cat(cat, 0), cat);
+        }
+    }
+
     static void sizeUpTo999() {
         IdeaMousers x = Kit.withHouse("room 0;scheme 0 60 9;");
         Kit.work(x, "again 60 [feed 0 60;];");
         is(x, 0, 0, 999, 9, 1, -1, -1);
+    }
+
+    static void soManyAsTheHouseHas() {
+        Kit.hasSoMany("scheme(.., 5)", 3, (x, scheme) -> x.scheme(scheme, 5));
     }
 
     static void asksOnly() {

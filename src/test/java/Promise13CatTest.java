@@ -64,6 +64,24 @@ public final class Promise13CatTest {
         Kit.due("in another room", x.cat(0, 3), 4);
     }
 
+    static void eachCatHasItsOwn() {
+        IdeaMousers x = Kit.withHouse("room 0;room 0;room 0;scheme 0 1 0;" + "scheme 1 1 0;".repeat(3)
+            + "scheme 2 1 0;".repeat(4) + "cat 0 0;cat 1 0;cat 2 0;");
+        int[][] took = {{0, 0, 0}, {1, 1, 1}, {1, 2, 2}, {1, 3, 3}, {1, 3, 4}};
+        int[][] sees = {{1, 14, 240}, {0, 12, 224}, {0, 8, 192}, {0, 0, 128}, {0, 0, 0}};
+        for (int night = 0; night < 5; night++) {
+            for (int cat = 0; cat < 3; cat++) {
+                Kit.due("took, cat " + cat + " in night " + night, x.cat(cat, 2), took[night][cat]);
+                Kit.due("sees, cat " + cat + " in night " + night, x.cat(cat, 3), sees[night][cat]);
+            }
+            Kit.work(x, "night;");
+        }
+    }
+
+    static void soManyAsTheHouseHas() {
+        Kit.hasSoMany("cat(.., 3)", 2, (x, cat) -> x.cat(cat, 3));
+    }
+
     static void asksOnly() {
         Kit.asksOnly("cat(0, 3)", x -> x.cat(0, 3));
         Kit.asksOnly("cat(1, 0)", x -> x.cat(1, 0));

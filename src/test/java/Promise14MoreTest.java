@@ -68,6 +68,10 @@ public final class Promise14MoreTest {
         Kit.due("its room and size of then", x.more(1), 9 + 10 + 1);
     }
 
+    static void soManyAsTheHouseHas() {
+        Kit.hasSoMany("more", 3, (x, scheme) -> x.more(scheme));
+    }
+
     static void asksOnly() {
         Kit.asksOnly("more(0)", x -> x.more(0));
         Kit.asksOnly("more(1)", x -> x.more(1));

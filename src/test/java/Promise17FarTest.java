@@ -52,6 +52,11 @@ public final class Promise17FarTest {
         Kit.due("no way", x.far(0, 1), -1);
     }
 
+    static void soManyAsTheHouseHas() {
+        Kit.hasSoMany("far(.., 0)", 5, (x, room) -> x.far(room, 0));
+        Kit.hasSoMany("far(0, ..)", 5, (x, room) -> x.far(0, room));
+    }
+
     static void asksOnly() {
         Kit.asksOnly("far(0, 3)", x -> x.far(0, 3));
         Kit.asksOnly("far(1, 1)", x -> x.far(1, 1));

@@ -56,6 +56,10 @@ public final class Promise18LastsTest {
         Kit.due("in night 905", x.lasts(0), 6);
     }
 
+    static void soManyAsTheHouseHas() {
+        Kit.hasSoMany("lasts", 3, (x, scheme) -> x.lasts(scheme));
+    }
+
     static void asksOnly() {
         Kit.asksOnly("lasts(0)", x -> x.lasts(0));
         Kit.asksOnly("lasts(1)", x -> x.lasts(1));

@@ -186,6 +186,125 @@ public final class Promise19SlipsTest {
         Kit.due("not by night 902", x.slips(0, 2), 2);
     }
 
+    /** A scheme with so many ahead of it in the last room, where nobody sees them. */
+    private static String schemes(int ahead, String scheme) {
+        return "scheme 3 50 0;".repeat(ahead) + scheme + "scheme 3 50 0;".repeat(7 - ahead);
+    }
+
+    /** Likewise a cat. */
+    private static String cats(int ahead, String cat) {
+        return "cat 3 0;".repeat(ahead) + cat + "cat 3 0;".repeat(4 - ahead);
+    }
+
+    static void whicheverSchemeByWhicheverCat() {
+        // The cat in room 2 sees what is above 15.
+        String rooms = "room 60;room 60;room 20;room 60;way 0 1;way 1 2;";
+        for (int scheme = 0; scheme < 8; scheme++) {
+            for (int cat = 0; cat < 5; cat++) {
+                String what = "scheme " + scheme + ", cat " + cat;
+                IdeaMousers x = Kit.withHouse(rooms + schemes(scheme, "scheme 0 5 5;") + cats(cat, "cat 2 5;"));
+                Kit.due(what + ": 15 by its own growth", x.slips(scheme, 2), 2);
+                Kit.law(x, "scheme");
+                Kit.due(what + ": by its own number", x.slips(scheme, 2), 5 + 2 * scheme <= 15 ? 2 : -1);
+                Kit.law(x, "mat*60");
+                Kit.due(what + ": those that live do not lie on the mat", x.slips(scheme, 2), 2);
+                IdeaMousers y = Kit.withHouse(rooms + schemes(scheme, "scheme 0 5 6;") + cats(cat, "cat 2 5;"));
+                Kit.due(what + ": 17 is too great", y.slips(scheme, 2), -1);
+            }
+        }
+    }
+
+    static void itLeavesNothingBehind() {
+        // Were it still in room 0, too, the cat there would take it, and the mat make it grow.
+        for (int scheme = 0; scheme < 8; scheme++) {
+            IdeaMousers x = Kit.withHouse("room 0;room 60;room 10;room 60;way 0 1;way 1 2;"
+                + schemes(scheme, "scheme 0 5 0;") + "cat 0 0;cat 2 0;");
+            Kit.law(x, "mat*60");
+            Kit.due("scheme " + scheme, x.slips(scheme, 2), 2);
+        }
+    }
+
+    static void itMayStayInAnyRoom() {
+        // In the fourth night the other one in the cat's room is great enough to be taken in its stead.
+        for (int start = 1; start < 4; start++) {
+            IdeaMousers x = Kit.withHouse("room 10;room 0;room 0;room 0;way 0 " + start + ";scheme " + start
+                + " 20 0;scheme 0 10 0;cat 0 0;");
+            Kit.law(x, "scheme*(night/3)*50");
+            Kit.due("from room " + start, x.slips(0, 0), 4);
+        }
+    }
+
+    static void eachCatInTheRoomIsToBeShunned() {
+        for (int size = 14; size <= 17; size++) {
+            String house = "room 60;room 20;way 0 1;scheme 0 " + size + " 0;";
+            Kit.due("the better nose first, " + size, Kit.withHouse(house + "cat 1 5;cat 1 0;").slips(0, 1), size <= 15 ? 1 : -1);
+            Kit.due("the better nose last, " + size, Kit.withHouse(house + "cat 1 0;cat 1 5;").slips(0, 1), size <= 15 ? 1 : -1);
+        }
+    }
+
+    static void onlyWhatThatCatTakesShieldsIt() {
+        for (int cat = 0; cat < 5; cat++) {
+            String rooms = "room 0;room 10;room 0;room 0;way 0 1;";
+            IdeaMousers x = Kit.withHouse(rooms + "scheme 0 12 0;scheme 1 20 0;" + cats(cat, "cat 1 0;"));
+            Kit.due("by cat " + cat, x.slips(0, 1), 1);
+            IdeaMousers y = Kit.withHouse(rooms + "scheme 0 12 0;scheme 3 20 0;" + cats(cat, "cat 1 0;"));
+            Kit.due("not by another one than cat " + cat, y.slips(0, 1), -1);
+        }
+    }
+
+    static void aCatThatTakesNoneElseTakesIt() {
+        for (int size = 1; size <= 8; size++) {
+            IdeaMousers x = Kit.withHouse("room 60;room 0;" + "room 60;".repeat(6) + "way 0 1;scheme 0 " + size + " 0;"
+                + "scheme 7 50 0;".repeat(7) + "cat 1 0;");
+            Kit.due("by " + size, x.slips(0, 1), -1);
+        }
+    }
+
+    static void whatDoesNotLiveShieldsNobody() {
+        IdeaMousers x = Kit.withHouse("room 0;room 0;way 0 1;scheme 0 1 0;scheme 1 9 0;cat 1 0;");
+        Kit.due("a greater one is there", x.slips(0, 1), 1);
+        Kit.work(x, "night;");
+        Kit.due("it was taken", x.slips(0, 1), -1);
+        IdeaMousers y = Kit.withHouse("room 0;room 0;way 0 1;scheme 0 1 0;scheme 1 5 0;scheme 1 9 0;cat 1 0;cat 1 0;");
+        Kit.due("two greater ones for two cats", y.slips(0, 1), 1);
+        Kit.work(y, "join 1 2;");
+        Kit.due("one was joined", y.slips(0, 1), -1);
+    }
+
+    /** From room 0 by room 1 or 2, where it grows by 1 or by more, and room 3 to the cat in room 4. */
+    private static IdeaMousers twoWays(int more, int last, String law) {
+        IdeaMousers x = Kit.withHouse("room 30;room 1;room " + more + ";room 20;room " + last
+            + ";way 0 1;way 0 2;way 1 3;way 2 3;way 3 4;scheme 0 6 0;cat 4 0;");
+        Kit.due("law", Kit.law(x, law), 1);
+        return x;
+    }
+
+    static void theSmallOfTwoSizesThatMeet() {
+        // 7 and 11, or 7 and 46, meet in room 3; the cat sees what is above 10.
+        IdeaMousers[] both = {twoWays(5, 10, "hide%10"), twoWays(59, 10, "most[hide%10,hide/59*40]")};
+        for (IdeaMousers x : both) {
+            Kit.due("by room 1", x.slips(0, 4), 3);
+            Kit.work(x, "shut 0;");
+            Kit.due("by room 2 alone", x.slips(0, 4), -1);
+        }
+    }
+
+    static void theGreatOfTwoSizesThatMeet() {
+        // In room 4, of 50, what is small grows beyond 50: 7 by 60, 8 by 40, what is above 10 by none.
+        IdeaMousers[] both = {twoWays(5, 50, "most[hide%10,(10-size)*(hide/50)*20]"),
+            twoWays(59, 50, "most[most[hide%10,hide/59*40],(10-size)*(hide%59/50)*20]")};
+        for (IdeaMousers x : both) {
+            Kit.due("by room 2", x.slips(0, 4), 3);
+            Kit.work(x, "shut 1;");
+            Kit.due("by two nights in room 1", x.slips(0, 4), 4);
+        }
+    }
+
+    static void soManyAsTheHouseHas() {
+        Kit.hasSoMany("slips(.., 0)", 3, (x, scheme) -> x.slips(scheme, 0));
+        Kit.hasSoMany("slips(0, ..)", 5, (x, room) -> x.slips(0, room));
+    }
+
     static void asksOnly() {
         Kit.asksOnly("slips(0, 3)", x -> x.slips(0, 3));
         Kit.asksOnly("slips(1, 0)", x -> x.slips(1, 0));

@@ -86,6 +86,32 @@ public final class Promise20HuntTest {
         is(x, 2, 2);
     }
 
+    static void nothingOfAnEarlierHouseIsLeft() {
+        // There the second cat gets scheme 0 or none; here is no second cat, so scheme 0 is the nearest one.
+        IdeaMousers x = Kit.withHouse("room 0;room 60;scheme 0 5 0;scheme 1 1 0;cat 0 0;cat 0 0;");
+        is(x, 1, 0);
+        Kit.house(x, LINE + "scheme 0 1 0;scheme 2 1 0;cat 0 0;");
+        is(x, 1, 0);
+        Kit.due("the nearest one", x.prey(0), 0);
+    }
+
+    static void moreSchemesThanCats() {
+        IdeaMousers x = Kit.withHouse("room 10;" + "scheme 0 1 0;".repeat(4) + "scheme 0 11 0;".repeat(4) + "cat 0 0;cat 0 0;");
+        is(x, 2, 0);
+    }
+
+    static void noLateSchemeToTwoCats() {
+        is(Kit.withHouse("room 10;" + "scheme 0 1 0;".repeat(3) + "scheme 0 11 0;cat 0 0;cat 0 0;cat 0 0;"), 1, 0);
+    }
+
+    static void theFirstGoesFarForTheLast() {
+        is(Kit.withHouse(FAR), 3, 3);
+    }
+
+    /** The first cat sees all three schemes, the second one two, the last one scheme 0 alone. */
+    static final String FAR = "room 10;room 0;room 0;room 10;way 0 1;way 1 2;way 2 3;"
+        + "scheme 0 11 0;scheme 0 5 0;scheme 3 3 0;cat 0 8;cat 0 6;cat 0 0;";
+
     static void asManyAsCanBe() {
         is(Kit.withHouse(LINE + "scheme 2 1 0;".repeat(8) + "cat 0 0;".repeat(5)), 5, 10);
         is(Kit.withHouse(LINE + "scheme 2 1 0;".repeat(3) + "cat 0 0;".repeat(5)), 3, 6);

@@ -81,6 +81,26 @@ public final class Promise21PreyTest {
             -1, -1, -1, -1, 7);
     }
 
+    static void moreSchemesThanCats() {
+        is(Kit.withHouse("room 10;" + "scheme 0 1 0;".repeat(4) + "scheme 0 11 0;".repeat(4) + "cat 0 0;cat 0 0;"), 4, 5);
+    }
+
+    static void noLateSchemeToTwoCats() {
+        is(Kit.withHouse("room 10;" + "scheme 0 1 0;".repeat(3) + "scheme 0 11 0;cat 0 0;cat 0 0;cat 0 0;"), 3, -1, -1);
+    }
+
+    static void theFirstGoesFarForTheLast() {
+        is(Kit.withHouse(Promise20HuntTest.FAR), 2, 1, 0);
+    }
+
+    static void whatTheFirstHasTheLastHasNot() {
+        is(Kit.withHouse("room 0;room 0;scheme 0 1 0;scheme 1 1 0;cat 0 0;cat 1 0;cat 0 0;"), 0, 1, -1);
+    }
+
+    static void soManyAsTheHouseHas() {
+        Kit.hasSoMany("prey", 2, (x, cat) -> x.prey(cat));
+    }
+
     static void asksOnly() {
         Kit.asksOnly("prey(0)", x -> x.prey(0));
         Kit.asksOnly("prey(1)", x -> x.prey(1));

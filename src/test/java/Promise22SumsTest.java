@@ -59,6 +59,10 @@ public final class Promise22SumsTest {
         Kit.due("a taken one", y.sums(0, 5), 0);
     }
 
+    static void soManyAsTheHouseHas() {
+        Kit.hasSoMany("sums(.., 0)", 5, (x, room) -> x.sums(room, 0));
+    }
+
     static void asksOnly() {
         Kit.asksOnly("sums(0, 0)", x -> x.sums(0, 0));
         Kit.asksOnly("sums(1, 18)", x -> x.sums(1, 18));

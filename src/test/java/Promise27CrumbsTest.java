@@ -103,6 +103,10 @@ public final class Promise27CrumbsTest {
         gets(x, 3, 999, 499, 499, 0, 0, 0, 0, 0, 0);
     }
 
+    static void soManyAsTheHouseHas() {
+        Kit.hasSoMany("crumbs(.., 7, 9)", 3, (x, scheme) -> x.crumbs(scheme, 7, 9));
+    }
+
     static void asksOnly() {
         Kit.asksOnly("crumbs(0, 0, 9)", x -> x.crumbs(0, 0, 9));
         Kit.asksOnly("crumbs(3, 15, 20)", x -> x.crumbs(3, 15, 20));

@@ -38,6 +38,19 @@ public final class Promise29ProudestTest {
         is(x, 4, 8);
     }
 
+    static void oneInBetweenTookMost() {
+        IdeaMousers x = Kit.withHouse("room 0;room 0;room 0;scheme 1 1 0;scheme 1 1 0;scheme 2 1 0;cat 0 0;cat 1 0;cat 2 0;");
+        Kit.work(x, "night;night;");
+        is(x, 1, 2);
+    }
+
+    static void whereTheCatsAreDoesNotMatter() {
+        IdeaMousers x = Kit.withHouse("room 0;".repeat(8) + "scheme 0 1 0;cat 0 0;" + "cat 7 0;".repeat(4));
+        is(x, -1, -1);
+        Kit.work(x, "night;");
+        is(x, 0, 1);
+    }
+
     static void behindUndoAsAhead() {
         IdeaMousers x = Kit.withHouse(Kit.HOUSE);
         Kit.work(x, "night;");

@@ -21,6 +21,11 @@ public final class Promise34CrowdTest {
         is(Kit.withHouse("room 0;".repeat(8) + "scheme 7 1 0;".repeat(8)), 7, 8);
     }
 
+    static void inALateRoomOfFewSchemes() {
+        is(Kit.withHouse("room 0;".repeat(8) + "scheme 0 1 0;scheme 7 1 0;scheme 7 1 0;"), 7, 2);
+        is(Kit.withHouse("room 0;room 0;" + "scheme 0 1 0;".repeat(3) + "scheme 1 1 0;".repeat(5)), 1, 5);
+    }
+
     static void ofAlikeOnesTheFirst() {
         is(Kit.withHouse("room 0;room 0;room 0;scheme 2 1 0;scheme 1 1 0;"), 1, 1);
         IdeaMousers x = Kit.withHouse(Kit.HOUSE);

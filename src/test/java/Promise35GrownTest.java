@@ -61,6 +61,10 @@ public final class Promise35GrownTest {
         Kit.due("nights are still counted", x.grown(0, 3), 2);
     }
 
+    static void soManyAsTheHouseHas() {
+        Kit.hasSoMany("grown(.., 1)", 3, (x, scheme) -> x.grown(scheme, 1));
+    }
+
     static void asksOnly() {
         Kit.asksOnly("grown(3, 99)", x -> x.grown(3, 99));
         Kit.asksOnly("grown(0, 1)", x -> x.grown(0, 1));

@@ -47,6 +47,10 @@ public final class Promise36EscapesTest {
         Kit.due("joined", y.escapes(1), 0);
     }
 
+    static void soManyAsTheHouseHas() {
+        Kit.hasSoMany("escapes", 3, (x, scheme) -> x.escapes(scheme));
+    }
+
     static void asksOnly() {
         Kit.asksOnly("escapes(0)", x -> x.escapes(0));
         Kit.asksOnly("escapes(1)", x -> x.escapes(1));

@@ -37,6 +37,10 @@ public final class Promise37WeightTest {
         Kit.due("all", x.weight(0), 8 * 999);
     }
 
+    static void soManyAsTheHouseHas() {
+        Kit.hasSoMany("weight", 5, (x, room) -> x.weight(room));
+    }
+
     static void asksOnly() {
         Kit.asksOnly("weight(1)", x -> x.weight(1));
     }

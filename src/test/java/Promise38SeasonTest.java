@@ -125,6 +125,62 @@ public final class Promise38SeasonTest {
         }
     }
 
+    /** What is drawn is done on another object by works; in the end both tell the same. */
+    private static void asByWorks(String house, String law, int seed, int nights, int q) {
+        IdeaMousers x = Kit.withHouse(house);
+        IdeaMousers y = Kit.withHouse(house);
+        if (!law.isEmpty()) {
+            Kit.law(x, law);
+            Kit.law(y, law);
+        }
+        int rooms = y.told(0);
+        int schemes = y.told(2);
+        int cats = y.told(3);
+        int[] state = {seed};
+        StringBuilder work = new StringBuilder();
+        for (int night = 0; night < nights; night++) {
+            work.append("hide " + drawnBy(state, schemes) + " " + drawnBy(state, rooms) + ";");
+            if (drawnBy(state, 16) < q) {
+                work.append("call " + drawnBy(state, cats) + " " + drawnBy(state, rooms) + ";");
+            }
+            work.append("night;");
+            // Six nights at least are in a work, so that sixteen works are enough.
+            if (work.length() > 125 || night == nights - 1) {
+                Kit.due("no fault by <" + work + ">", Kit.work(y, work.toString()) >= 0 ? 1 : 0, 1);
+                work.setLength(0);
+            }
+        }
+        String what = nights + " nights by seed " + seed + ", q " + q + ": ";
+        Kit.due(what + "live", x.season(seed, nights, q, 0), y.told(5));
+        Kit.due(what + "size", x.season(seed, nights, q, 1), y.told(11));
+        Kit.due(what + "mat", x.season(seed, nights, q, 2), Integer.bitCount(y.told(6)));
+        Kit.due(what + "cat", x.season(seed, nights, q, 3), y.proudest(0));
+    }
+
+    private static int drawnBy(int[] state, int many) {
+        int number = drawn(state[0]);
+        state[0] = next(state[0]);
+        return number % many;
+    }
+
+    static void asTheSameStepsDoneByWorks() {
+        String[] houses = {
+            Kit.UNEVEN,
+            // Three rooms, two ways, four schemes, five cats; then more schemes than rooms and cats.
+            "room 30;room 15;room 40;way 0 1;way 1 2;scheme 0 9 1;scheme 2 5 0;scheme 1 3 1;scheme 2 12 0;"
+                + "cat 0 1;cat 1 3;cat 2 9;cat 0 0;cat 1 5;",
+            "room 25;room 50;room 35;way 1 0;way 2 0;way 1 2;way 0 1;scheme 0 1 1;scheme 0 2 0;scheme 1 3 1;"
+                + "scheme 2 4 1;scheme 2 5 0;scheme 1 6 2;scheme 0 7 1;cat 2 6;cat 0 3;",
+        };
+        int[] nights = {1, 2, 5, 11, 30, 96};
+        int[] qs = {0, 3, 8, 16};
+        for (String house : houses) {
+            for (int seed = 1; seed <= 12; seed++) {
+                asByWorks(house, seed % 2 == 0 ? "" : "hide%4", seed * 7654321, nights[seed % 6], qs[seed % 4]);
+            }
+        }
+    }
+
     static void theCatThatTookMostByThen() {
         IdeaMousers y = Kit.withHouse("room 0;room 0;scheme 1 1 0;scheme 0 2 0;scheme 1 9 0;cat 0 0;cat 1 0;");
         Kit.work(y, "night;");

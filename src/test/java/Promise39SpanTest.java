@@ -51,6 +51,12 @@ public final class Promise39SpanTest {
         Kit.due("the last one", Kit.withHouse("room 0;" + "scheme 0 1 0;".repeat(8)).span(0, 1, 1, 0, 2, 7), 1);
     }
 
+    static void soManySchemesAsTheHouseHas() {
+        // By the seed 0 scheme 0 hides in room 3; schemes 1 and 2 are taken.
+        Kit.due("the last of three", Kit.withHouse(Kit.UNEVEN).span(0, 1, 1, 0, 1, 2), 1);
+        Kit.illegal("a fourth", x -> Kit.house(x, Kit.UNEVEN), x -> x.span(0, 1, 1, 0, 1, 3));
+    }
+
     static void asTheSeasonsByEachSeed() {
         int[] firsts = {0, 77, -5, Integer.MAX_VALUE - 3};
         for (int first : firsts) {
